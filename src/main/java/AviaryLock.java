@@ -977,7 +977,11 @@ public final class AviaryLock {
             tokens.advance();
             if (kind == '(') {
                 readOrs(depth + 1);
-                expect(')');
+                if (tokens.kind == ')') {
+                    tokens.advance();
+                } else {
+                    refuse();
+                }
             }
         }
     }

@@ -18,11 +18,14 @@ public final class ActPromisesTest {
         seconds();
         net();
         food();
+        slipped();
         curtainAndDusk();
         week();
         undoAndRedo();
         fortyActs();
         board();
+        fullBoard();
+        gapNow();
         boxes();
         about();
         refusalsDoNothing();
@@ -219,6 +222,23 @@ public final class ActPromisesTest {
         CHECK.due("outside", x.sort(0, 2), 1);
         CHECK.due("within", x.sort(0, 0), 9);
         CHECK.due("slipped stays", x.sort(0, 3), 10);
+        x.undo();
+        CHECK.due("food undone", x.sort(0, 2), 7);
+        AviaryLock y = Texts.with("sort a birds 200 slips 100;party 1 at 0 out;spring 1 1;");
+        y.seconds(2);
+        // The draws: 71, 98 in the two seconds, then 97: (200 * 70 + 97) / 100.
+        CHECK.due("seven seeds for many", y.food(0, 7), 140);
+    }
+
+    private static void slipped() {
+        AviaryLock x = Texts.with("sort z birds 3 slips 0;sort a birds 10 slips 50+slipped;party 1 at 0 out;spring 1 1;");
+        // Draws 71 and 98 for the inner door, 97 and 60 for the outer one: 5 go between, (5 * 50 + 60) / 100 = 3 outside.
+        x.seconds(2);
+        CHECK.due("outside", x.sort(1, 2), 3);
+        CHECK.due("odds by what slipped", x.sort(1, 4), 53);
+        CHECK.due("none of the other slipped", x.sort(0, 3), 0);
+        x.food(1, 9);
+        CHECK.due("what slipped has slipped", x.sort(1, 4), 53);
     }
 
     private static void curtainAndDusk() {
@@ -355,6 +375,35 @@ public final class ActPromisesTest {
         CHECK.due("the latest", x.board(0), 3);
         CHECK.due("the 20th", x.board(19) >= 0, true);
         CHECK.due("no more than 20", x.board(20), -1);
+    }
+
+    private static void fullBoard() {
+        // Each goes in alone, ten seconds behind the one ahead, and holds the inner door in the second behind its own.
+        StringBuilder text = new StringBuilder("manners 100;");
+        for (int i = 0; i < 12; i++) {
+            text.append("party 1 at ").append(10 * i).append(" in;");
+        }
+        AviaryLock x = Texts.with(text.toString());
+        x.seconds(120);
+        x.week();
+        for (int held = 12; held <= 24; held++) {
+            for (int i = 0; i < 22; i++) {
+                boolean isThere = i < Math.min(20, held);
+                CHECK.due(held + " held, " + i, x.board(i), isThere ? (held - 1 - i) % 12 : -1);
+            }
+            x.seconds(10);
+        }
+    }
+
+    private static void gapNow() {
+        AviaryLock x = Texts.with("manners 100;sort a birds 10 slips gap*7;party 1 at 0 in;");
+        CHECK.due("no gap", x.sort(0, 4), 0);
+        x.seconds(1);
+        CHECK.due("one door", x.sort(0, 4), 0);
+        x.seconds(1);
+        CHECK.due("both doors", x.sort(0, 4), 7);
+        x.seconds(1);
+        CHECK.due("the inner door alone", x.sort(0, 4), 0);
     }
 
     private static void boxes() {

@@ -137,6 +137,8 @@ public final class CountPromisesTest {
         CHECK.due("five of the other", x.lost(1, 0), 5);
         x.count(1, 0, 40, 3);
         CHECK.due("eight of the other", x.lost(1, 0), 8);
+        x.count(1, 15, 15, 0);
+        CHECK.due("a span of one number", x.lost(1, 0), 8);
         CHECK.due("no such sort", x.lost(2, 0), -1);
         CHECK.due("no sort -1", x.lost(-1, 0), -1);
         CHECK.due("no strangers of none", x.strangers(2, 0), -1);

@@ -61,6 +61,27 @@ final class Houses {
         return text.toString();
     }
 
+    /** A house in which much hangs on order, curtains and manners. */
+    static String busy(Random r) {
+        StringBuilder text = new StringBuilder();
+        text.append("lock ").append(2 + r.nextInt(8)).append(";draw ").append(r.nextInt(1000));
+        text.append(";spring ").append(1 + r.nextInt(4)).append(' ').append(1 + r.nextInt(4));
+        text.append(";manners ").append(r.nextInt(101)).append(';').append(r.nextInt(6) == 0 ? "latch;" : "");
+        String[] slips = {"veil*5+2", "20-veil*9", "gap*30+people", "(veil=week%3)*40", "(slipped<9)*(30-veil*10)", "week*4+night*9",
+            "not gap*2+12", "40/(veil+1)", "60-gap*50", "5+(people>2)*20-slipped"};
+        int sorts = 1 + r.nextInt(3);
+        for (int i = 0; i < sorts; i++) {
+            text.append("sort ").append((char) ('a' + i)).append(" birds ").append(r.nextInt(200));
+            text.append(" slips ").append(slips[r.nextInt(slips.length)]).append(';');
+        }
+        int parties = 3 + r.nextInt(8);
+        for (int i = 0; i < parties; i++) {
+            text.append("party ").append(1 + r.nextInt(3)).append(" at ").append(r.nextInt(20));
+            text.append(r.nextBoolean() ? " in" : " out").append(r.nextInt(5) == 0 ? " pram;" : ";");
+        }
+        return text.toString();
+    }
+
     private static void addSometimes(Random r, List<String> lines, String line) {
         if (r.nextInt(3) > 0) {
             lines.add(line);

@@ -73,9 +73,12 @@ public final class PlanPromisesTest {
         CHECK.due("gaps, all", y.day(3), 2);
         CHECK.due("holds in the day alone", y.holds(), 1);
         CHECK.due("holders in the day alone", y.holders(), 2);
+        y.week();
+        CHECK.due("both hold in a day", y.holders(), 3);
         y.seconds(300);
         y.seconds(300);
         CHECK.due("a late day", y.day(0), 0);
+        CHECK.due("no holders there", y.holders(), 0);
     }
 
     private static void dayOfStuck() {
@@ -200,6 +203,7 @@ public final class PlanPromisesTest {
         CHECK.due("wait 999", x.large(999), 1);
         CHECK.due("wait 1000", x.large(1000), -1);
         CHECK.due("wait -1", x.large(-1), -1);
+        CHECK.due("twenty seats", Texts.with("party 9 at 0 in pram;party 9 at 1 in;").large(0), 20);
         CHECK.due("a pram", Texts.with("lock 1;party 9 at 0 in pram;").large(0), 11);
         CHECK.due("nobody", new AviaryLock().large(0), 1);
     }

@@ -97,6 +97,15 @@ public final class TextPromisesTest {
         CHECK.due("its sorts", x.about(1), 0);
         CHECK.due("its units", x.about(17), 0);
         CHECK.due("its dark", x.about(8), 0);
+        CHECK.due("its curtain", x.about(7), 0);
+        CHECK.due("its seed", x.about(4), 0);
+        CHECK.due("its manners", x.about(10), 0);
+        Texts.put(x, "party 1 at 0 out;party 1 at 9 in;");
+        x.house();
+        x.seconds(1);
+        CHECK.due("its inner spring", x.door(1), 2);
+        x.seconds(9);
+        CHECK.due("its outer spring", x.door(0), 2);
     }
 
     private static void houseBeginsAnew() {
@@ -186,6 +195,7 @@ public final class TextPromisesTest {
         fault("abcdefgh;", 2, 0);
         fault("sort abcdefghi birds 1 slips 1;", 1, 5);
         sound("sort abcdefgh birds 1 slips 1;");
+        sound("sort z birds 1 slips 1;");
         fault(ONE_SORT + "12345;", 1, 21);
         sound(ONE_SORT + "9999;");
         fault(ONE_SORT + "1!2;", 1, 22);
@@ -256,6 +266,8 @@ public final class TextPromisesTest {
             fault("party 1 at 1 in;" + line + line, 2, 16 + line.length());
         }
         fault("lock 4;lock 99;", 2, 7);
+        fault("lock 4;latch;dark;latch;", 2, 18);
+        fault("lock 4;latch;dark;lock 4;", 2, 18);
         StringBuilder sorts = new StringBuilder();
         for (char name = 'a'; name < 'e'; name++) {
             sorts.append("sort ").append(name).append(" birds 1 slips 1;");
@@ -292,12 +304,15 @@ public final class TextPromisesTest {
         odds("week+slipped+gap+people+night", 0);
         odds("3<4", 1);
         odds("4<3", 0);
+        odds("3<3", 0);
         odds("4>3", 1);
         odds("3>3", 0);
         odds("3=3", 1);
         odds("3=4", 0);
         odds("1+2=3", 1);
         odds("5 and 7", 1);
+        odds("1 and 1", 1);
+        odds("1 and 0", 0);
         odds("5 and 0", 0);
         odds("0 or 7", 1);
         odds("0 or 0", 0);
@@ -344,6 +359,10 @@ public final class TextPromisesTest {
     }
 
     private static void units() {
+        String nots = "not not not not not not not 1";
+        sound(ONE_SORT + nots + (" and " + nots).repeat(29) + ";");
+        CHECK.due("nots ahead of each", Texts.with(ONE_SORT + nots + (" or " + nots).repeat(29) + ";").sort(0, 4), 0);
+        CHECK.due("nots ahead of each but the last", Texts.with(ONE_SORT + nots + (" or " + nots).repeat(28) + " or 1;").sort(0, 4), 1);
         String thirty = "1" + "+1".repeat(29);
         sound(ONE_SORT + thirty + ";");
         CHECK.due("thirty units", Texts.with(ONE_SORT + thirty + ";").about(17), 30);
