@@ -262,6 +262,10 @@ public final class PlanPromisesTest {
         AviaryLock y = Texts.with("party 1 at 50 in;party 1 at 40 in;party 1 at 30 in;party 1 at 20 in;party 1 at 10 in;");
         CHECK.due("order of five", y.order(5), 0);
         lying("five", y, 0, 1, 2, 3, 4);
+        AviaryLock z = Texts.with("lock 5;spring 3 3;manners 46;party 1 at 20 out;party 3 at 19 out;party 5 at 8 out;party 1 at 16 in;party 4 at 18 in;");
+        CHECK.due("waits as told", z.day(2), 4);
+        CHECK.due("the last of all orders", z.order(5), 0);
+        lying("the last of all orders", z, 4, 3, 2, 1, 0);
     }
 
     private static void orderFromNow() {

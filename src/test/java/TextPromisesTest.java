@@ -18,6 +18,7 @@ public final class TextPromisesTest {
         ranges();
         tooMany();
         formulas();
+        fourFormulas();
         nesting();
         units();
         CHECK.end();
@@ -344,6 +345,17 @@ public final class TextPromisesTest {
         fault(ONE_SORT + "not;", 2, 24);
         fault(ONE_SORT + "not", 2, 24);
         fault(ONE_SORT + "1+", 2, 23);
+    }
+
+    private static void fourFormulas() {
+        AviaryLock x = Texts.with("sort a birds 1 slips 1;sort b birds 2 slips 4/2;sort c birds 3 slips not 0+2;sort d birds 4 slips 2*2;");
+        int[] want = {1, 2, 0, 4};
+        for (int i = 0; i < 4; i++) {
+            CHECK.due("birds of sort " + i, x.sort(i, 0), i + 1);
+            CHECK.due("odds of sort " + i, x.sort(i, 4), want[i]);
+        }
+        CHECK.due("no fifth", x.sort(4, 0), -1);
+        CHECK.due("units", x.about(17), 7);
     }
 
     private static void nesting() {
