@@ -24,6 +24,7 @@ public final class PlanPromisesTest {
         order();
         orderFromNow();
         veils();
+        lastWeeks();
         lies();
         chance();
         wrongArguments();
@@ -294,6 +295,26 @@ public final class PlanPromisesTest {
         CHECK.due("the week stays", y.about(3), 0);
         y.week();
         CHECK.due("from a week on", y.veils(1), 0);
+    }
+
+    // No run of 512 calls comes to these weeks; the class keeps to their limit all the same.
+    private static void lastWeeks() {
+        AviaryLock x = Texts.with("sort s birds 10 slips 0;sort t birds 9 slips 100*(week=999);" + ONE_OUT);
+        for (int i = 1; i <= 996; i++) {
+            x.week();
+        }
+        CHECK.due("veils past 999", x.veils(4), -1);
+        CHECK.due("none lie there", x.about(18), 0);
+        CHECK.due("veils to 999", x.veils(3), 9);
+        CHECK.due("gone in the last week", x.gone(1), 3);
+        CHECK.due("not gone by the last week", x.gone(0), -1);
+        CHECK.due("week 997", x.week(), 997);
+        CHECK.due("week 998", x.week(), 998);
+        CHECK.due("week 999", x.week(), 999);
+        CHECK.due("no week 1000", x.week(), -1);
+        CHECK.due("nothing done", x.about(3), 999);
+        CHECK.due("no veils", x.veils(1), -1);
+        CHECK.due("no week to be gone in", x.gone(1), -1);
     }
 
     private static void lies() {
