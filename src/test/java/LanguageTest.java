@@ -32,11 +32,13 @@ public final class LanguageTest {
         CHECK.end();
     }
 
-    private static void face() {
+    private static void face() throws IOException {
         Set<String> names = new TreeSet<>();
+        Set<String> lines = new TreeSet<>();
         for (Method m : AviaryLock.class.getDeclaredMethods()) {
             if (Modifier.isPublic(m.getModifiers())) {
                 names.add(m.getName());
+                lines.add(Modifier.toString(m.getModifiers()) + " " + m.getReturnType() + " " + m.getName() + types(m.getParameterTypes()));
             } else {
                 CHECK.due(m.getName() + " is private", Modifier.isPrivate(m.getModifiers()), true);
             }
@@ -46,6 +48,27 @@ public final class LanguageTest {
             CHECK.due(f.getName() + " is private", Modifier.isPrivate(f.getModifiers()), !f.getName().equals("NONE"));
         }
         CHECK.due("one constructor", AviaryLock.class.getDeclaredConstructors().length, 1);
+        CHECK.due("it is public, without arguments", AviaryLock.class.getConstructors()[0].toString().equals("public AviaryLock()"), true);
+        CHECK.due("the class is public and final", Modifier.toString(AviaryLock.class.getModifiers()).equals("public final"), true);
+        CHECK.due("NONE", AviaryLock.NONE, -1);
+        CHECK.due("types are the document's", lines.equals(facesOfDocument()), true);
+    }
+
+    private static String types(Class<?>[] types) {
+        return Arrays.toString(types);
+    }
+
+    /** Each method of the document's face, without its arguments' names. */
+    private static Set<String> facesOfDocument() throws IOException {
+        Set<String> lines = new TreeSet<>();
+        String document = Files.readString(Path.of("../shared/DOC.md"));
+        Matcher m = Pattern.compile("(?m)^    (public [a-z]+ [a-z]+)\\((.*)\\);$").matcher(document);
+        while (m.find()) {
+            String types = m.group(2).replaceAll("([a-z]+) [a-z]+", "$1");
+            lines.add(m.group(1) + "[" + types + "]");
+        }
+        CHECK.due("methods of the document's face", lines.size(), 44);
+        return lines;
     }
 
     private static String withoutComments(String source) {
